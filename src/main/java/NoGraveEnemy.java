@@ -243,7 +243,7 @@ public final class NoGraveEnemy {
 
     public int handful(int what) {
         int person = what - 10;
-        if (what != 0 && (what < 10 || !now.has(person))) {
+        if (what != 0 && !now.has(person)) {
             return NONE;
         }
         int most = choices.findThrowers(now);

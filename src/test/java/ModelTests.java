@@ -1,5 +1,3 @@
-import java.util.Random;
-
 /** Runs of 512 calls, drawn from seeds that are told here, answered by the class and by the Model. */
 public final class ModelTests {
     private static final int RUNS = 400;
@@ -10,14 +8,15 @@ public final class ModelTests {
         Integer.MAX_VALUE
     };
 
-    private final Random random;
+    private final Draws random;
     private final NoGraveEnemy x = new NoGraveEnemy();
     private final Model y = new Model();
     private final int run;
+    private int wildOneIn = 40;
 
     private ModelTests(int run) {
         this.run = run;
-        this.random = new Random(run);
+        this.random = new Draws(run);
     }
 
     public static void main(String[] args) {
@@ -43,7 +42,7 @@ public final class ModelTests {
 
     /** A number mostly below n, now and then a little or far beside it. */
     private int any(int n) {
-        int how = random.nextInt(40);
+        int how = random.nextInt(wildOneIn);
         if (how == 0) {
             return WILD[random.nextInt(WILD.length)];
         }
@@ -83,6 +82,7 @@ public final class ModelTests {
     }
 
     private void goWild() {
+        wildOneIn = 8;
         for (int n = 0; n < CALLS; n++) {
             call(below(CALL_SORTS));
         }

@@ -140,6 +140,13 @@ public final class PromiseTests {
         far.die(1, true);
         far.hate(0, 1, 0);
         due("3 LIES at d 9", far.of(1, 6), 10);
+        NoGraveEnemy month = Due.of(1, 0);
+        Due.parish(month, "sting 50 d=9;need 50");
+        month.die(1, true);
+        month.pass(19);
+        due("3 LIES beyond 30", month.of(1, 6), -5);
+        month.pass(1);
+        due("3 LIES 30", month.of(1, 6), 30);
     }
 
     private static void promise4() {
@@ -206,6 +213,9 @@ public final class PromiseTests {
         }
         x.pass(4);
         due("5 MILD day 7", x.between(1, 0, 1), 51);
+        due("5 FRIEND day 7", x.between(4, 0, 1), 43);
+        x.pass(1);
+        due("5 FRIEND day 8", x.between(4, 0, 1), 42);
         NoGraveEnemy y = new NoGraveEnemy();
         y.one(5, 0);
         y.one(6, 3);
@@ -372,9 +382,15 @@ public final class PromiseTests {
         due("9 k", sum("sting 1 k=0;sting 2 k>0", 0), 1);
         due("9 v", sum("sting 1 v<5;sting 2 v=5;sting 4 v>5", 0), 2);
         due("9 h", sum("sting 1 h<5;sting 2 h=5;sting 4 h>5", 0), 2);
+        NoGraveEnemy third = Due.of(0, 3, 0);
+        Due.parish(third, "sting 1 k=3;sting 2 k<3;sting 4 k>3;sting 8 q=2;sting 16 q<2");
+        due("9 k of another KIND", third.between(1, 2, 1), 9);
+        due("9 q of another", third.between(2, 1, 1), 18);
         due("9 d", sum("sting 1 d=0;sting 2 d=3", 23), 2);
         due("9 < is strict", sum("sting 1 p<1;sting 2 p<2;sting 4 p>0;sting 8 p>1", 0), 6);
         due("9 & before |", sum("sting 1 p=1|p=1&p=0", 0), 1);
+        due("9 & of | and |", sum("sting 1 (p=0|p=1)&(p=1|p=0);sting 2 (p=1|p=0)&(p=0|p=0)", 0), 1);
+        due("9 | of & and &", sum("sting 1 p=0&p=1|p=1&p=0;sting 2 p=1&p=1|p=1&p=0", 0), 2);
         due("9 & before |, other way", sum("sting 1 p=0&p=1|p=1", 0), 1);
         due("9 ( )", sum("sting 1 (p=1|p=1)&p=0", 0), 0);
         due("9 ! binds nearest", sum("sting 1 !p=0&p=1;sting 2 !p=1|p=1;sting 4 !(p=1|p=0)", 0), 3);
@@ -400,6 +416,10 @@ public final class PromiseTests {
         due("10 HATE", x.told(4), 150);
         due("10 LONELY", x.told(5), 8);
         due("10 no KEEP", x.told(6), -5);
+        NoGraveEnemy alone = Due.of(0, 0, 0);
+        due("10 all LONELY", alone.told(5), 7);
+        alone.hate(0, 1, 30);
+        due("10 the first and the last LONELY", alone.told(5), 5);
         due("10 LONGEST", x.told(7), 2);
         x.hate(2, 3, 30);
         due("10 LONELY none", x.told(5), 0);
@@ -468,6 +488,20 @@ public final class PromiseTests {
         z.pass(1);
         due("11 the first who is not DEAD", z.of(2, 4), 1);
         due("11 the DEAD bury nobody", z.told(3), 2);
+        NoGraveEnemy w = Due.of(0, 0, 0, 0, 0, 0);
+        for (int one = 3; one < 6; one++) {
+            for (int other = 0; other < 3; other++) {
+                w.hate(one, other, 30);
+                w.die(other, true);
+            }
+        }
+        due("11 nobody throws twice", w.handful(0), 3);
+        due("11 the first of all", w.handful(10), 3);
+        due("11 the next of all", w.handful(11), 4);
+        due("11 the last of all", w.handful(12), 5);
+        w.pass(1);
+        due("11 three on a DAY", w.told(3), 7);
+        due("11 each by another", w.of(3, 4) * 100 + w.of(4, 4) * 10 + w.of(5, 4), 111);
     }
 
     private static void promise12() {
@@ -485,6 +519,8 @@ public final class PromiseTests {
         due("12 HATE of another", x.on(4, 33), 35);
         due("12 HATE for itself", x.on(4, 20), 0);
         due("12 at most 30", x.on(30, 0), 2);
+        due("12 none", x.on(0, 0), 0);
+        due("12 none, HATE", x.on(0, 21), 45);
         due("12 BAD", x.on(31, 0), -2);
         due("12 BAD below", x.on(-1, 0), -2);
         for (int what : new int[] {1, 9, 13, 19, 23, 38, 56, -1, TOP, LOW, LOW + 9, LOW + 19}) {
@@ -674,6 +710,9 @@ public final class PromiseTests {
         x.die(3, true);
         due("18 DEAD too, above", x.odds(0, 0), 3);
         due("18 DEAD too, below", x.odds(0, 1), 4);
+        x.hate(0, 4, 30);
+        due("18 the only ENEMY is the first, above", x.odds(4, 0), 3);
+        due("18 the only ENEMY is the first, below", x.odds(4, 1), 4);
         x.one(0, 0);
         due("18 of five, below", x.odds(0, 1), 5);
         due("18 part", x.odds(0, 2), NO);
@@ -756,6 +795,11 @@ public final class PromiseTests {
         x.plan(0, 0);
         x.plan(1, 1);
         due("21 in their order", x.ends(0), 0);
+        x.hate(0, 2, 30);
+        x.plan(1, 2);
+        x.plan(0, 0);
+        due("21 two DEAD, one to throw", x.ends(0), 2);
+        due("21 what is left", x.ends(1), 95);
     }
 
     private static void promise22() {
@@ -997,6 +1041,7 @@ public final class PromiseTests {
         due("31 of none holds no item", x.item(0, 0, 1), -13);
         due("31 nothing, whatever n", x.tape(0, -1, -500), 1);
         due("31 nothing then", x.item(0, 0, 1), -11);
+        due("31 nothing to read then", x.read(0, 0), NO);
     }
 
     private static void promise32And33() {
