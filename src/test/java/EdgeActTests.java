@@ -107,11 +107,13 @@ public final class EdgeActTests {
         due("27 act 1", x.act(0, 1, 7), 5);
         due("27 act 2", x.act(0, 2, 7), 10);
         due("27 person 5", x.act(5, 2, 7), 20);
-        for (int act : new int[] {-1, 3, TOP, LOW}) {
+        for (int act : new int[] {-1, 3, 4, TOP, LOW}) {
             due("27 act " + act, x.act(0, act, 7), 0);
+            due("27 act " + act + ", no body", x.count(6), 0);
         }
-        for (int person : new int[] {-1, 6, TOP, LOW}) {
+        for (int person : new int[] {-1, 6, 7, TOP, LOW}) {
             due("27 person " + person, x.act(person, 0, 7), 0);
+            due("27 person " + person + ", no body", x.count(6), 0);
         }
         NoGraveEnemy y = Due.of(0, 0);
         due("27 person 1 of 2", y.act(1, 0, 7), 8);

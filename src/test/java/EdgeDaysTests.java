@@ -27,6 +27,7 @@ public final class EdgeDaysTests {
         beyondTheLastDay();
         ordersBeyondTheLastDay();
         handfulEdges();
+        handfulOfOne();
         handfulOfTheMost();
         handfulFirstRow();
         handfulIsNotADay();
@@ -243,23 +244,33 @@ public final class EdgeDaysTests {
         due("12 on 30: till DAY 50", y.on(30, 0), 2);
     }
 
+    /** "what 0 .., 10 and p .., 20 and 6 times p and q HATE of p for q (0, if these are one)" */
     private static void onEachNumber() {
-        NoGraveEnemy x = Due.of(0, 0, 0, 0, 0);
-        for (int one = 0; one < 5; one++) {
-            for (int other = 0; other < 5; other++) {
-                x.hate(one, other, 10 * one + other + 1);
+        NoGraveEnemy x = new NoGraveEnemy();
+        due("12 nobody is BURIED", x.on(0, 0), 0);
+        for (int people = 1; people <= 6; people++) {
+            x.one(0, 0);
+            for (int other = 0; other < people; other++) {
+                x.hate(people - 1, other, 10 * people - 10 + other + 1);
+                x.hate(other, people - 1, 10 * other + people);
+            }
+            if (people == 1 || people >= 5) {
+                onEachNumber(x, people);
             }
         }
+    }
+
+    private static void onEachNumber(NoGraveEnemy x, int people) {
         for (int what = -30; what <= 70; what++) {
             int p = Math.floorDiv(what - 20, 6);
             int q = Math.floorMod(what - 20, 6);
             int want = -1;
-            if (what == 0 || what >= 10 && what < 15) {
+            if (what == 0 || what >= 10 && what < 10 + people) {
                 want = 0;
-            } else if (p >= 0 && p < 5 && q < 5) {
+            } else if (p >= 0 && p < people && q < people) {
                 want = p == q ? 0 : 10 * p + q + 1;
             }
-            due("12 what " + what, x.on(0, what), want);
+            due("12 what " + what + " of " + people, x.on(0, what), want);
         }
         for (int what : new int[] {TOP, LOW, LOW + 10, LOW + 19, LOW + 20, TOP - 9}) {
             due("12 what " + what, x.on(0, what), -1);
@@ -381,6 +392,17 @@ public final class EdgeDaysTests {
         due("13 what 9", x.handful(9), -1);
         due("13 what 1", x.handful(1), -1);
         due("13 person 5", x.handful(15), -5);
+    }
+
+    private static void handfulOfOne() {
+        NoGraveEnemy x = Due.of(0, 0, 0, 0, 0, 0);
+        Due.parish(x, "need 0");
+        for (int p = 0; p < 6; p++) {
+            x.die(p, true);
+            due("13 one ENEMY for one, of five", x.handful(0), 1);
+            due("13 the first of five", x.handful(10 + p), p == 0 ? 1 : 0);
+            x.die(p, false);
+        }
     }
 
     /** "that by which most have one" */

@@ -76,7 +76,14 @@ public final class EdgePeopleTests {
                 due("2 not yet there", x.of(n + 1, 0), -1);
             }
             due("2 a seventh", x.one(kind, 0), -4);
+            for (int wild : new int[] {Integer.MIN_VALUE, -1, 10, 11, Integer.MAX_VALUE}) {
+                due("2 v " + wild, new NoGraveEnemy().one(kind, wild), -2);
+            }
             due("2 six", x.count(0), 6);
+        }
+        for (int kind : new int[] {Integer.MIN_VALUE, -2, -1, 7, 8, Integer.MAX_VALUE}) {
+            due("2 kind " + kind, new NoGraveEnemy().one(kind, 0), -1);
+            due("2 NONE ahead of BAD, kind " + kind, new NoGraveEnemy().one(kind, 10), -1);
         }
     }
 
@@ -285,8 +292,10 @@ public final class EdgePeopleTests {
                 due("7 n -1", x.row(p, part, -1), -2);
                 due("7 9 was taken", x.row(p, part, p == 4 ? part : 9 - part), 9);
             }
-            due("7 part 4", x.row(p, 4, 0), -1);
-            due("7 part -1", x.row(p, -1, 0), -1);
+            for (int part : new int[] {Integer.MIN_VALUE, -1, 4, 5, Integer.MAX_VALUE}) {
+                due("7 part " + part, x.row(p, part, 0), -1);
+                due("7 NONE ahead of BAD, part " + part, x.row(p, part, 10), -1);
+            }
         }
         for (int part = 0; part <= 3; part++) {
             due("7 each its own", x.row(4, part, 0), part);

@@ -20,6 +20,7 @@ public final class EdgeSeenTests {
         hatesFromEndToEnd();
         hatesLeast();
         hatesOfBoth();
+        seenOfEachPair();
         hatesAsNow();
         hatesOfTheDead();
         canFromEndToEnd();
@@ -172,6 +173,28 @@ public final class EdgeSeenTests {
         x.see(2, 1, 0, false);
         due("16 of each pair its own", x.hates(2, 1, 0), 30);
         due("16 of each pair its own, least", x.hates(2, 1, 1), 0);
+    }
+
+    private static void seenOfEachPair() {
+        for (int one = 0; one < 6; one++) {
+            for (int other = 0; other < 6; other++) {
+                if (one != other) {
+                    seenOfThePair(one, other);
+                }
+            }
+        }
+    }
+
+    private static void seenOfThePair(int one, int other) {
+        NoGraveEnemy x = Due.of(0, 0, 0, 0, 0, 0);
+        x.see(one, other, 0, true);
+        for (int p = 0; p < 6; p++) {
+            due("17 CAN of " + p + " by " + one + " " + other, x.can(p, 0), p == one ? 0 : 10);
+            for (int q = 0; q < 6; q++) {
+                int many = p == one && q == other ? 70 : p == q ? -2 : 100;
+                due("16 HATES of " + p + " for " + q + " by " + one + " " + other, x.hates(p, q, 0), many);
+            }
+        }
     }
 
     /** "HATE being as now": in DAYS from now, nobody is BURIED. */
