@@ -14,6 +14,8 @@ public final class NoGraveEnemy {
 
     private static final int MOST_PEOPLE = 6, MOST_HATE = 99, MOST_V = 9, MOST_ROW = 9, PARTS = 4;
     private static final int MOST_DAY = 9999, MOST_THROWN = 9999, MOST_PASS = 60, MOST_ASKED = 30, MOST_SEEN_DAYS = 20;
+    /** More than THROWN can come to in what is asked, where it goes beyond 9999. */
+    private static final int BEYOND = 1000000;
     private static final int MOST_TEXT = 100, MOST_SIGN = 127, MOST_PARISHES = 6, MOST_CLAUSES = 10, MOST_NESTED = 4;
     private static final int NEED_WITHOUT = 30;
     private static final int MOST_SEEN = 5, MOST_PLAN = 10, MOST_BOOK = 8, MOST_ROWS = 10, COLUMNS = 4;
@@ -233,7 +235,7 @@ public final class NoGraveEnemy {
         }
         asked.copyFrom(now);
         for (int days = 0; days < n; days++) {
-            asked.goDay(Integer.MAX_VALUE);
+            asked.goDay(BEYOND);
         }
         if (isThrown) {
             return asked.thrown[thrower];
@@ -343,7 +345,7 @@ public final class NoGraveEnemy {
         for (int n = 0; n < now.plan.size; n++) {
             int goes = now.plan.cell(n, 0);
             if (goes == GOES_DAY) {
-                asked.goDay(Integer.MAX_VALUE);
+                asked.goDay(BEYOND);
             } else {
                 asked.suffer(goes, now.plan.cell(n, 1));
             }
@@ -537,6 +539,16 @@ public final class NoGraveEnemy {
         return bits >> person & 1;
     }
 
+    /** The first by number whose bit is set; NONE if nobody's is. */
+    private static int firstOf(int bits) {
+        for (int person = 0; person < MOST_PEOPLE; person++) {
+            if (bit(bits, person) == 1) {
+                return person;
+            }
+        }
+        return NONE;
+    }
+
     private int lies(int person) {
         if (bit(now.dead, person) == 0) {
             return NO_SUCH;
@@ -546,7 +558,7 @@ public final class NoGraveEnemy {
             if (bit(asked.buried, person) == 1) {
                 return days;
             }
-            asked.goDay(Integer.MAX_VALUE);
+            asked.goDay(BEYOND);
         }
         return NO_SUCH;
     }
@@ -694,8 +706,7 @@ public final class NoGraveEnemy {
                 if (bit(dead & ~buried, person) == 0) {
                     continue;
                 }
-                // with nobody left this is 32, which no village has
-                int thrower = Integer.numberOfTrailingZeros(enemiesOf(person, day) & ~threw);
+                int thrower = firstOf(enemiesOf(person, day) & ~threw);
                 if (has(thrower)) {
                     threw |= 1 << thrower;
                     buried |= 1 << person;

@@ -22,10 +22,38 @@ public final class LanguageTests {
         String whole = Files.readString(SOURCE);
         String code = withoutComments(whole);
         words(code);
+        library(code);
+        made(code);
         signs(whole);
+        new SourceMethods(code).look();
         face();
         classes();
         Due.end();
+    }
+
+    /** Each use of a class of the library is one that LANGUAGE.md names. */
+    private static void library(String code) {
+        Set<String> named = Set.of("Long.MIN_VALUE", "Integer.bitCount", "Math.floorMod", "Math.max", "Math.min",
+            "System.arraycopy");
+        Matcher uses = Pattern.compile("\\b(?:Integer|Long|Math|System|Arrays|Character|Boolean|Byte|Short|List|Objects)"
+            + "\\s*\\.\\s*\\w+").matcher(code);
+        while (uses.find()) {
+            Due.due("LANGUAGE 4: " + uses.group(), named.contains(uses.group()) ? 1 : 0, 1);
+        }
+        Due.due("LANGUAGE 4: Long.MIN_VALUE beside NO", found(code, "Long\\.MIN_VALUE"), 1);
+    }
+
+    /** What is made is made with the object itself: by its fields, and by its constructor's two loops. */
+    private static void made(String code) {
+        for (String line : code.split("\n")) {
+            if (found(line, "\\bnew\\b") > 0) {
+                boolean isField = line.matches(" +private (static )?(final )?\\S+ \\w+ = new .*;");
+                boolean isConstructors = line.matches(" {12}(parishes|tapes)\\[n\\] = new \\w+\\(\\);");
+                Due.due("LANGUAGE 12: " + line.strip(), isField || isConstructors ? 1 : 0, 1);
+            }
+        }
+        Due.due("LANGUAGE 12: copies of arrays", found(code, "\\bclone\\b|copyOf\\b|copyOfRange\\b|toCharArray\\b"), 0);
+        Due.due("LANGUAGE 12: texts", found(code, "StringBuilder|substring"), 0);
     }
 
     private static String withoutComments(String source) {
